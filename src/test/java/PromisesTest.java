@@ -495,8 +495,8 @@ public final class PromisesTest {
         due(13, "its own pin", 127, () -> x.netOf(2, NONE, 1));
         due(13, "its instances", 0, () -> x.count(2, 1));
         due(13, "it is alike", true, () -> x.alike(0, 2));
-        x.instance(1, 0);
-        due(13, "flat with a leaf that has nets", 3, () -> x.flat(1));
+        addInstances(x, 1, 0, 24);
+        due(13, "flat with leaves that have 3072 nets", 3, () -> x.flat(1));
         due(13, "a leaf's nets are none of the flat one's", 0, () -> x.count(3, 2));
         due(13, "flat of no module", INDEX, () -> x.flat(4));
         for (int module : WRONG) {
@@ -603,6 +603,8 @@ public final class PromisesTest {
         due(14, "one more in a flat one", 6, () -> x.instance(f, 0));
         due(14, "its own number", 6, () -> x.path(f, 6, 0));
         due(14, "its own number alone", NONE, () -> x.path(f, 6, 1));
+        due(14, "the others there keep their ways", 1, () -> x.path(f, 4, 0));
+        due(14, "and all of them", 2, () -> x.path(f, 5, 1));
         due(14, "the copy still has its ways", 2, () -> x.path(copy, 5, 1));
         x.net(copy);
         due(14, "also when it was changed", 2, () -> x.path(copy, 5, 1));
