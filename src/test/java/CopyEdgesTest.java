@@ -53,9 +53,9 @@ public final class CopyEdgesTest extends Checks {
                 .join(0, 127, 63, 3).join(0, 64, 0, 0).copy(0);
         sameModule("a copy of a full one", full, 0, 2);
         due("it is alike", true, full, x -> x.alike(0, 2));
-        due("port of a full copy", STATE, full, x -> x.port(2, 1, true));
-        due("instance in a full copy", STATE, full, x -> x.instance(2, 1));
-        due("net in a full copy", STATE, full, x -> x.net(2));
+        refused("port of a full copy", STATE, full, x -> x.port(2, 1, true));
+        refused("instance in a full copy", STATE, full, x -> x.instance(2, 1));
+        refused("net in a full copy", STATE, full, x -> x.net(2));
         due("the copy's last pin", 127, full, x -> x.netOf(2, 63, 3));
         for (int module = 0; module < 6; module++) {
             int m = module;

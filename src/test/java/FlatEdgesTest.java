@@ -23,6 +23,7 @@ public final class FlatEdgesTest extends Checks {
         leafThatIsNoneAnyMore();
         orderOfInstances();
         orderOfNets();
+        orderOfNetsThatAreOne();
         pinsThatMeetNothing();
         netsThroughManyModules();
         wayOfAnInstance();
@@ -120,9 +121,9 @@ public final class FlatEdgesTest extends Checks {
         isTooMuch("16 ^ 7 * 8", Recipe.chain(16, 16, 16, 16, 16, 16, 16, 8), 8);
         isTooMuch("16 ^ 7 * 24", Recipe.chain(16, 16, 16, 16, 16, 16, 16, 24), 8);
         Recipe byLongs = Recipe.chain(16, 16, 16, 16, 16, 16, 16, 16, 16, 16, 16, 16, 16, 16, 16, 16);
-        due("16 ^ 16", UNSUPPORTED, byLongs, x -> x.flat(16));
-        due("16 ^ 16 and 5", UNSUPPORTED, byLongs.instances(5, 16, 0), x -> x.flat(16));
-        due("64 ^ 6", UNSUPPORTED, Recipe.chain(64, 64, 64, 64, 64, 64), x -> x.flat(6));
+        isTooMuch("16 ^ 16", byLongs, 16);
+        isTooMuch("16 ^ 16 and 5", byLongs.instances(5, 16, 0), 16);
+        isTooMuch("64 ^ 6", Recipe.chain(64, 64, 64, 64, 64, 64), 6);
         fits("16, the lowest of all", byLongs, 1, 16, 0);
     }
 
@@ -256,19 +257,39 @@ public final class FlatEdgesTest extends Checks {
         refused("the module of one more", INDEX, flat, x -> x.moduleOf(5, 6));
     }
 
-    /** Own pins of the modules tell which net is which: 3 has nets 0, 1; 2 has net 2; 1 has net 3. */
     private static void orderOfNets() {
         says(13, "The flat one's nets are these, in the order of their first ones (by occurrences, then by numbers)");
-        Recipe nets = new Recipe().modules(3).ports(1, 0, 1, true).instances(2, 1, 0).nets(2, 1)
+        Recipe nets = new Recipe().modules(3).port(0, 1, true).instances(2, 1, 0).nets(2, 1)
                 .join(1, 0, 1, 0).join(1, 1, 0, 0).instances(2, 2, 1).instance(2, 0).nets(2, 2).join(2, 1, 2, 0);
-        Recipe flat = nets.flat(2);
-        int[] due = {3, 2, 5, 4, 1};
-        for (int i = 0; i < due.length; i++) {
+        fits("none of them one", nets, 2, 5, 6);
+        netsOfLeaves(nets.flat(2), 3, 3, 2, 5, 4, 1);
+        due("the first net has no pin", 0, nets.flat(2), x -> x.pins(3, 0));
+    }
+
+    /**
+     * Net 0 of each of three occurrences of module 1 is one with a net before it: twice with net 1 of the top,
+     * once with the net of module 3. So nets behind these have smaller numbers than there were nets before them.
+     */
+    private static void orderOfNetsThatAreOne() {
+        says(13, "The flat one's nets are these, in the order of their first ones (by occurrences, then by numbers)");
+        Recipe nets = new Recipe().modules(4).port(0, 1, true).port(1, 1, true).port(2, 1, false)
+                .instances(2, 1, 0).nets(3, 1).join(1, 0, NONE, 0).join(1, 0, 0, 0).join(1, 2, 1, 0)
+                .instance(3, 1).nets(1, 3).join(3, 0, 0, 0)
+                .instances(2, 2, 1).instance(2, 3).nets(2, 2)
+                .join(2, 1, 0, 0).join(2, 1, 1, 0).join(2, 1, NONE, 0);
+        fits("three of them one, and two", nets, 2, 6, 9);
+        netsOfLeaves(nets.flat(2), 4, 1, 3, 1, 5, 6, 8);
+        due("the own pin", 1, nets.flat(2), x -> x.netOf(4, NONE, 0));
+        due("pins of the three", 3, nets.flat(2), x -> x.pins(4, 1));
+        due("pins of the two", 1, nets.flat(2), x -> x.pins(4, 6));
+        due("drivers of the three", 1, nets.flat(2), x -> x.doubled(4, 0));
+    }
+
+    private static void netsOfLeaves(Recipe flat, int module, int... wanted) {
+        for (int i = 0; i < wanted.length; i++) {
             int instance = i;
-            due("the net of " + i, due[i], flat, x -> x.netOf(3, instance, 0));
+            due("the net of leaf " + i, wanted[i], flat, x -> x.netOf(module, instance, 0));
         }
-        due("nets", 6, flat, x -> x.count(3, 2));
-        due("the first net has no pin", 0, flat, x -> x.pins(3, 0));
     }
 
     private static void pinsThatMeetNothing() {

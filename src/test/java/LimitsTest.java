@@ -225,9 +225,9 @@ public final class LimitsTest extends Checks {
     private static void limitsOfAModuleAreItsOwn() {
         says(5, "A module has PORTS (16 at most), INSTANCES (64 at most), NETS (128 at most)");
         Recipe full = modules(2).ports(16, 0, 8, true).instances(64, 0, 1).nets(128, 0);
-        due("port when all is full", STATE, full, x -> x.port(0, 8, true));
-        due("instance when all is full", STATE, full, x -> x.instance(0, 1));
-        due("net when all is full", STATE, full, x -> x.net(0));
+        refused("port when all is full", STATE, full, x -> x.port(0, 8, true));
+        refused("instance when all is full", STATE, full, x -> x.instance(0, 1));
+        refused("net when all is full", STATE, full, x -> x.net(0));
         due("pins when all is full", 128, full, x -> x.count(0, 3));
         due("instances when all is full", 64, full, x -> x.count(0, 1));
         due("nets when all is full", 128, full, x -> x.count(0, 2));

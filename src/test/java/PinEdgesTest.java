@@ -5,6 +5,13 @@ public final class PinEdgesTest extends Checks {
             .port(0, 8, false).port(0, 8, true).port(1, 1, false).port(1, 8, true).port(1, 1, false)
             .instances(2, 0, 1).nets(3, 0);
 
+    private interface KthNet {
+        int of(DesignTrees x, int k);
+    }
+
+    private static final KthNet DOUBLED = (x, k) -> x.doubled(0, k);
+    private static final KthNet OPEN = (x, k) -> x.open(0, k);
+
     /** 128 own pins and 128 of an instance, whose ways are chosen; 128 nets. */
     private static Recipe wide(boolean ownOut, boolean instanceOut) {
         return new Recipe().modules(2).ports(16, 0, 8, ownOut).ports(16, 1, 8, instanceOut)
@@ -111,7 +118,7 @@ public final class PinEdgesTest extends Checks {
                     due("its net", net, joined, x -> x.netOf(0, instance, pin));
                     due("its instance", instance, joined, x -> x.pin(0, net, 0, 0));
                     due("its pin", pin, joined, x -> x.pin(0, net, 0, 1));
-                    due("no second one", INDEX, joined, x -> x.pin(0, net, 1, 0));
+                    refused("no second one", INDEX, joined, x -> x.pin(0, net, 1, 0));
                     due("pins", 1, joined, x -> x.pins(0, net));
                     due("part", true, joined, x -> x.part(0, instance, pin));
                 }
@@ -188,7 +195,7 @@ public final class PinEdgesTest extends Checks {
             due("whether it drives at " + k, 1, all, x -> x.pin(0, 127, k, 2));
         }
         for (int k : new int[] {LEAST, -1, 256, 257, GREATEST}) {
-            due("place " + k, INDEX, all, x -> x.pin(0, 127, k, 0));
+            refused("place " + k, INDEX, all, x -> x.pin(0, 127, k, 0));
         }
     }
 
@@ -205,7 +212,7 @@ public final class PinEdgesTest extends Checks {
             due("pin at " + k, (k - 1) % 2, all, x -> x.pin(0, 0, k, 1));
         }
         due("the own one first", NONE, all, x -> x.pin(0, 0, 0, 0));
-        due("behind the last one", INDEX, all, x -> x.pin(0, 0, 129, 0));
+        refused("behind the last one", INDEX, all, x -> x.pin(0, 0, 129, 0));
     }
 
     private static void placesOfPins() {
@@ -258,18 +265,30 @@ public final class PinEdgesTest extends Checks {
         due("one in each of two nets", NONE, PAIR.join(0, 0, 1, 1).join(0, 1, 1, 8), x -> x.doubled(0, 0));
     }
 
-    private static void noneAtAnyPlace(Recipe recipe, boolean doubled) {
+    private static void noneAtAnyPlace(Recipe recipe, KthNet net) {
         for (int k : new int[] {0, 1, 127, 128, GREATEST}) {
-            due("place " + k, NONE, recipe, x -> doubled ? x.doubled(0, k) : x.open(0, k));
+            due("place " + k, NONE, recipe, x -> net.of(x, k));
+        }
+    }
+
+    private static void each128AtItsPlace(Recipe recipe, KthNet net) {
+        for (int k : new int[] {0, 1, 63, 126, 127}) {
+            due("place " + k, k, recipe, x -> net.of(x, k));
+        }
+        for (int k : new int[] {128, 129, GREATEST}) {
+            due("place " + k, NONE, recipe, x -> net.of(x, k));
+        }
+        for (int k : new int[] {LEAST, -1}) {
+            refused("place " + k, INDEX, recipe, x -> net.of(x, k));
         }
     }
 
     private static void doubledOfNone() {
         says(15, "NONE if there are not so many");
-        noneAtAnyPlace(new Recipe().modules(1), true);
-        noneAtAnyPlace(new Recipe().modules(1).nets(128, 0), true);
-        noneAtAnyPlace(PAIR, true);
-        noneAtAnyPlace(PAIR.join(0, 0, NONE, 0).join(0, 1, NONE, 8).join(0, 1, NONE, 9), true);
+        noneAtAnyPlace(new Recipe().modules(1), DOUBLED);
+        noneAtAnyPlace(new Recipe().modules(1).nets(128, 0), DOUBLED);
+        noneAtAnyPlace(PAIR, DOUBLED);
+        noneAtAnyPlace(PAIR.join(0, 0, NONE, 0).join(0, 1, NONE, 8).join(0, 1, NONE, 9), DOUBLED);
     }
 
     private static void doubledOfAll() {
@@ -278,16 +297,7 @@ public final class PinEdgesTest extends Checks {
         for (int net = 0; net < 128; net++) {
             all = all.join(0, net, NONE, net).join(0, net, 0, net);
         }
-        for (int net : new int[] {0, 1, 63, 126, 127}) {
-            int k = net;
-            due("place " + k, k, all, x -> x.doubled(0, k));
-        }
-        for (int k : new int[] {128, 129, GREATEST}) {
-            due("place " + k, NONE, all, x -> x.doubled(0, k));
-        }
-        for (int k : new int[] {LEAST, -1}) {
-            due("place " + k, INDEX, all, x -> x.doubled(0, k));
-        }
+        each128AtItsPlace(all, DOUBLED);
         due("none is open", NONE, all, x -> x.open(0, 0));
     }
 
@@ -308,10 +318,10 @@ public final class PinEdgesTest extends Checks {
 
     private static void openOfNone() {
         says(16, "NONE if there are not so many");
-        noneAtAnyPlace(new Recipe().modules(1), false);
-        noneAtAnyPlace(new Recipe().modules(1).nets(128, 0), false);
-        noneAtAnyPlace(PAIR, false);
-        noneAtAnyPlace(PAIR.join(0, 0, NONE, 0).join(0, 1, NONE, 8).join(0, 1, 0, 8), false);
+        noneAtAnyPlace(new Recipe().modules(1), OPEN);
+        noneAtAnyPlace(new Recipe().modules(1).nets(128, 0), OPEN);
+        noneAtAnyPlace(PAIR, OPEN);
+        noneAtAnyPlace(PAIR.join(0, 0, NONE, 0).join(0, 1, NONE, 8).join(0, 1, 0, 8), OPEN);
     }
 
     private static void openOfAll() {
@@ -320,18 +330,8 @@ public final class PinEdgesTest extends Checks {
         for (int net = 0; net < 128; net++) {
             all = net % 2 == 0 ? all.join(0, net, NONE, net) : all.join(0, net, 0, net);
         }
-        Recipe made = all;
-        for (int net : new int[] {0, 1, 63, 126, 127}) {
-            int k = net;
-            due("place " + k, k, made, x -> x.open(0, k));
-        }
-        for (int k : new int[] {128, 129, GREATEST}) {
-            due("place " + k, NONE, made, x -> x.open(0, k));
-        }
-        for (int k : new int[] {LEAST, -1}) {
-            due("place " + k, INDEX, made, x -> x.open(0, k));
-        }
-        due("none is doubled", NONE, made, x -> x.doubled(0, 0));
+        each128AtItsPlace(all, OPEN);
+        due("none is doubled", NONE, all, x -> x.doubled(0, 0));
     }
 
     private static void openByPlaces() {

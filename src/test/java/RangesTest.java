@@ -236,13 +236,12 @@ public final class RangesTest extends Checks {
         ends("moduleOf(0, instance)", full, 63, (x, n) -> x.moduleOf(0, n));
     }
 
-    /** What is refused there is tested for changing nothing on the sample, which is sooner asked for all. */
     private static void ends(String name, Recipe recipe, int last, CallAt call) {
         within(name, recipe, 0, call);
         within(name, recipe, last - 1, call);
         within(name, recipe, last, call);
         for (int number : new int[] {LEAST, -2, last + 1, last + 2, GREATEST}) {
-            due(name + " at " + number, INDEX, recipe, x -> call.on(x, number));
+            beyond(name, recipe, number, call);
         }
     }
 }
