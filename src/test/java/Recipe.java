@@ -14,6 +14,7 @@ final class Recipe {
     }
 
     private final List<Call> calls;
+    private boolean toldOfAThrow = false;
 
     Recipe() {
         this(List.of());
@@ -36,8 +37,20 @@ final class Recipe {
             throw new IllegalArgumentException("a fault of the test: no call is left to ask anything");
         }
         DesignTrees x = new DesignTrees();
-        calls.forEach(call -> call.on(x));
+        calls.forEach(call -> make(x, call));
         return x;
+    }
+
+    /** A throw where none is due is told once, and does not keep the other checks from being made. */
+    private void make(DesignTrees x, Call call) {
+        try {
+            call.on(x);
+        } catch (RuntimeException e) {
+            if (!toldOfAThrow) {
+                Checks.hold("a call that makes the design threw " + e.getClass().getSimpleName(), false);
+            }
+            toldOfAThrow = true;
+        }
     }
 
     /** A number, true, false, or the plain name of what was thrown. */
