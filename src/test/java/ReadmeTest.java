@@ -75,7 +75,8 @@ public final class ReadmeTest {
                 program.add(checked(shown));
                 shownMethods.add(shown.group("method"));
             } else {
-                check("the question whether [" + line + "] may show no answer", "true", String.valueOf(UNSHOWN.contains(line)));
+                check("the question whether [" + line + "] may show no answer", "true",
+                        String.valueOf(UNSHOWN.contains(line)));
                 program.add(line);
             }
         }
@@ -89,10 +90,11 @@ public final class ReadmeTest {
             return "try { " + check + "String.valueOf(" + call + ")); }"
                     + " catch (RuntimeException e) { " + check + "e.getClass().getSimpleName()); }";
         }
-        if (shown.group("name") == null) {
+        String name = shown.group("name");
+        if (name == null) {
             return check + "String.valueOf(" + call + "));";
         }
-        return "int " + shown.group("name") + " = " + call + "; " + check + "String.valueOf(" + shown.group("name") + "));";
+        return "int " + name + " = " + call + "; " + check + "String.valueOf(" + name + "));";
     }
 
     private static void runProgram(List<String> program) throws Exception {
